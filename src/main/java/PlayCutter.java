@@ -77,10 +77,9 @@ public final class PlayCutter {
         PlayReader reader = new PlayReader(text, letters);
         Statement read = reader.readPlay();
         letters = 0;
-        fault = NONE;
-        who = NONE;
         if (read == null) {
             fault = reader.place;
+            who = NONE;
             throw new IllegalArgumentException();
         }
         Cutter cutter = new Cutter(putIn, reader.count);
@@ -418,7 +417,7 @@ public final class PlayCutter {
             this.end = end;
         }
 
-        /** The first statement, or null when the text is no play. */
+        /** The first statement, or null when the text is no play (an empty one has none). */
         Statement readPlay() {
             Statement first = readRow(0);
             return wrong ? null : first;
@@ -439,9 +438,8 @@ public final class PlayCutter {
             return first;
         }
 
-        /** An empty play is none, so at its very beginning the outermost row goes on. */
         private boolean rowEnds(int depth) {
-            return depth == 0 ? place == end && count > 0 : ahead(0) == '}';
+            return depth == 0 ? place == end : ahead(0) == '}';
         }
 
         private Statement readStatement(int depth) {
@@ -584,7 +582,7 @@ public final class PlayCutter {
             }
         }
 
-        /** The letter that stands i behind the next one; 0, which is in no text, at the end or once it is wrong. */
+        /** The letter i behind the next one; 0, which is in no text, at the end or once it is wrong. */
         private char ahead(int i) {
             return !wrong && place + i < end ? text[place + i] : 0;
         }
@@ -621,7 +619,6 @@ public final class PlayCutter {
         Action(int kind) {
             this.kind = kind;
             this.parts = new Action[partsOf(kind)];
-            this.present = kind == HEAR ? 0 : (1 << parts.length) - 1;
         }
 
         private static int partsOf(int kind) {

@@ -128,6 +128,8 @@ public final class ReadingTest {
         Check.dueThrow("load with C unaware", Check.STATE, () -> x.load(false));
         Check.due("all else stays", before.replace("fault -1 who -1", "fault 0 who 2"), Check.state(x));
         Check.dueThrow("the text is empty", Check.ARGUMENT, () -> x.load(true));
+        Check.due("fault is new", 0, x.fault());
+        Check.due("who is new", PlayCutter.NONE, x.who());
         Check.dueThrow("a step was made", Check.STATE, () -> x.input(0, 0, 1));
     }
 
@@ -213,9 +215,13 @@ public final class ReadingTest {
         dueFault(3, "A1>G");
         dueFault(4, "A1>B;");
         dueFault(4, "A1>Bv;");
+        dueFault(4, "A1>B{;");
         dueFault(5, "A1>Bw:");
         dueFault(2, "A!");
         dueFault(2, "A!w>B;");
+        dueFault(2, "A!>B;");
+        dueFault(2, "A!:>B;");
+        dueFault(2, "A!/>B;");
         dueFault(3, "A!12>B;");
         dueFault(4, "A!1>A;");
         dueFault(5, "A!1>Bw;");
@@ -232,6 +238,7 @@ public final class ReadingTest {
 
     private static void promise4FaultAtLimits() {
         dueFault(PlayCutter.NONE, "Aw:1;".repeat(40));
+        dueFault(200, "Aw:11;".repeat(3) + "Aw:1;".repeat(36) + "Aw");
         String begun = "A@w{".repeat(6) + "Aw:1;".repeat(34);
         dueFault(194, begun);
         dueFault(194, begun + "Aw:1;");

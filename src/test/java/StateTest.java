@@ -31,8 +31,7 @@ public final class StateTest {
         for (int from = 0; from < 6; from++) {
             for (int to = 0; to < 6; to++) {
                 if (from != to) {
-                    int due = from == 0 && to == 1 ? 0 : from == 5 && to == 0 ? 3 : 0;
-                    Check.due("queue " + from + " " + to, due, x.queue(from, to));
+                    Check.due("queue " + from + " " + to, from == 5 && to == 0 ? 3 : 0, x.queue(from, to));
                 }
             }
         }
@@ -59,13 +58,13 @@ public final class StateTest {
             Check.dueThrow("label " + i, Check.ELEMENT, () -> x.label(0, 1, i));
         }
         Check.dueThrow("message of the queue back", Check.ELEMENT, () -> x.message(1, 0, 0));
-        PlayCutter long8 = Check.loaded("A@w{Aw>Bx;Aw:w-1;}", false);
-        long8.room(8);
-        long8.input(0, 0, 30);
-        long8.run(0, 300);
-        Check.due("the queue has gone round its ring", 0, long8.queue(0, 1) > 8 ? 1 : 0);
-        Check.due("at last", true, long8.variable(0, 0) < 30 - 8);
-        Check.due("labels of rounds and values by turns", true, alternates(long8));
+        PlayCutter many = Check.loaded("A@w{Aw>Bx;Aw:w-1;}", false);
+        many.room(8);
+        many.input(0, 0, 30);
+        many.run(0, 300);
+        Check.due("more than a queue's room was sent", true, many.variable(0, 0) < 30 - 8);
+        Check.due("but no more are in it", true, many.queue(0, 1) <= 8);
+        Check.due("labels of rounds and values by turns", true, alternates(many));
     }
 
     private static boolean alternates(PlayCutter x) {

@@ -56,6 +56,11 @@ public final class WholeTest {
         nested.input(0, 0, 2);
         Check.due("out of blocks", 3 + 2 * 4 + 1, nested.whole(2000));
         Check.due("behind", 1, nested.wanted(0, 3));
+        PlayCutter six = Check.loaded("A?w{}{".repeat(3) + "A?x{".repeat(3) + "Ay:1;Ay:2;" + "}{}".repeat(3) + "Az:y;"
+                + "}".repeat(3) + "Az:z+1;", false);
+        six.input(0, 1, 1);
+        Check.due("out of six blocks", 6 + 2 + 1 + 1, six.whole(2000));
+        Check.due("behind them", 3, six.wanted(0, 3));
     }
 
     private static void promise18WrongCalls() {
