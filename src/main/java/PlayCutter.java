@@ -348,7 +348,7 @@ public final class PlayCutter {
 
         private final int place;
         private int kind;
-        private int party = NONE;
+        private int party;
         private int other = NONE;
         private int variable;
         private int label;
@@ -449,7 +449,7 @@ public final class PlayCutter {
                 return s;
             }
             count++;
-            s.party = readParty(NONE);
+            s.party = readOneOf('A', PARTIES);
             char c = ahead(0);
             if (c == '!') {
                 readTell(s);
@@ -466,7 +466,7 @@ public final class PlayCutter {
 
         private void readSet(Statement s) {
             s.kind = SET;
-            s.variable = readVariable();
+            s.variable = readOneOf('w', VARIABLES);
             expect(':');
             s.expression = readExpression();
             expect(';');
@@ -476,17 +476,17 @@ public final class PlayCutter {
             s.kind = SEND;
             s.expression = readExpression();
             expect('>');
-            s.other = readParty(s.party);
-            s.variable = readVariable();
+            s.other = readOther(s.party);
+            s.variable = readOneOf('w', VARIABLES);
             expect(';');
         }
 
         private void readTell(Statement s) {
             s.kind = TELL;
             expect('!');
-            s.label = readFigure();
+            s.label = readOneOf('0', LABELS);
             expect('>');
-            s.other = readParty(s.party);
+            s.other = readOther(s.party);
             expect(';');
         }
 
@@ -544,34 +544,22 @@ public final class PlayCutter {
             }
         }
 
-        private int readParty(int notThis) {
-            int p = ahead(0) - 'A';
-            if (!isParty(p) || p == notThis) {
+        private int readOther(int party) {
+            if (ahead(0) == 'A' + party) {
                 wrong = true;
-                return NONE;
             }
-            place++;
-            return p;
+            return readOneOf('A', PARTIES);
         }
 
-        private int readVariable() {
-            int v = ahead(0) - 'w';
-            if (v < 0 || v >= VARIABLES) {
+        /** Which of so many letters, from the first one on, comes next; 0 when it is none of them. */
+        private int readOneOf(char first, int many) {
+            int which = ahead(0) - first;
+            if (which < 0 || which >= many) {
                 wrong = true;
                 return 0;
             }
             place++;
-            return v;
-        }
-
-        private int readFigure() {
-            int d = ahead(0) - '0';
-            if (d < 0 || d >= LABELS) {
-                wrong = true;
-                return 0;
-            }
-            place++;
-            return d;
+            return which;
         }
 
         private void expect(char c) {
@@ -649,7 +637,7 @@ public final class PlayCutter {
         }
 
         boolean hasPart(int i) {
-            return i >= 0 && i < parts.length && contains(present, i);
+            return i >= 0 && i < parts.length && (present >> i & 1) != 0;
         }
 
         void setPart(int i, Action row) {
