@@ -81,6 +81,33 @@ final class Check {
         return x;
     }
 
+    /** Asks that a text is no play, with this fault; or, when the fault is NONE, that it is one. */
+    static void dueFault(int fault, String text) {
+        PlayCutter x = new PlayCutter();
+        type(x, text);
+        dueThrow("load of " + text, fault == PlayCutter.NONE ? NOTHING : ARGUMENT, () -> x.load(true));
+        due("fault of " + text, fault, x.fault());
+        due("who of " + text, PlayCutter.NONE, x.who());
+    }
+
+    /** Asks that load() of a text throws an exception, with this fault and this party. */
+    static void dueNoCut(String text, boolean putIn, Class<?> thrown, int fault, int who) {
+        PlayCutter x = new PlayCutter();
+        type(x, text);
+        dueThrow("load(" + putIn + ") of " + text, thrown, () -> x.load(putIn));
+        due("fault of " + text, fault, x.fault());
+        due("who of " + text, who, x.who());
+    }
+
+    /** Asks for the answers of steps: W for WAITS, D for DID, E for ENDED. */
+    static void dueSteps(PlayCutter x, String parties, String answers) {
+        StringBuilder got = new StringBuilder();
+        for (int i = 0; i < parties.length(); i++) {
+            got.append("WDE".charAt(x.step(parties.charAt(i) - 'A')));
+        }
+        due("steps of " + parties, answers, got.toString());
+    }
+
     /** Asks for the whole text of a part, by length() and letter(). */
     static String part(PlayCutter x, int party) {
         StringBuilder all = new StringBuilder();

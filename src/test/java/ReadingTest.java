@@ -173,91 +173,82 @@ public final class ReadingTest {
         Check.due("who", 1, x.who());
     }
 
-    private static void dueFault(int fault, String text) {
-        PlayCutter x = new PlayCutter();
-        Check.type(x, text);
-        Check.dueThrow("load of " + text, fault == PlayCutter.NONE ? Check.NOTHING : Check.ARGUMENT,
-                () -> x.load(true));
-        Check.due("fault of " + text, fault, x.fault());
-        Check.due("who of " + text, PlayCutter.NONE, x.who());
-    }
-
     private static void promise4FaultOfText() {
         String[] plays = {"Aw:1;", "Fz:999;", "Aw:x;", "Aw:x+y;", "Aw:12*345;", "Aw:000%z;", "Aw:w/0;", "Aw:1<2;",
             "Aw:1=2;", "Aw:w-1;", "Aw>Bx;", "A5>Bx;", "Aw+1>Bx;", "A1<w>Fz;", "B!0>A;", "B!9>F;", "A?w{}{}",
             "A?w=1{Bx:1;}{C!1>B;}", "A@w{}", "A@100-w{A@w{}}", "Aw:1;Bw:1;A?w{}{}C!1>D;"};
         for (String play : plays) {
-            dueFault(PlayCutter.NONE, play);
+            Check.dueFault(PlayCutter.NONE, play);
             for (int i = 1; i < play.length(); i++) {
                 if ("AFB".indexOf(play.charAt(i)) < 0) {
-                    dueFault(i, play.substring(0, i) + "#");
+                    Check.dueFault(i, play.substring(0, i) + "#");
                 }
             }
         }
-        dueFault(0, "");
-        dueFault(0, "a");
-        dueFault(0, "G");
-        dueFault(0, "@");
-        dueFault(0, "{");
-        dueFault(1, "AA");
-        dueFault(1, "A;");
-        dueFault(2, "Aw;");
-        dueFault(2, "A1:2;");
-        dueFault(3, "Aw::1;");
-        dueFault(3, "Aw:+1;");
-        dueFault(3, "Aw:-1;");
-        dueFault(4, "Aw:xy;");
-        dueFault(4, "Aw:x>1;");
-        dueFault(6, "Aw:x+1+1;");
-        dueFault(6, "Aw:1234;");
-        dueFault(8, "Aw:1+1234;");
-        dueFault(3, "A1>A");
-        dueFault(3, "A1>G");
-        dueFault(4, "A1>B;");
-        dueFault(4, "A1>Bv;");
-        dueFault(4, "A1>B{;");
-        dueFault(5, "A1>Bw:");
-        dueFault(2, "A!");
-        dueFault(2, "A!w>B;");
-        dueFault(2, "A!>B;");
-        dueFault(2, "A!:>B;");
-        dueFault(2, "A!/>B;");
-        dueFault(3, "A!12>B;");
-        dueFault(4, "A!1>A;");
-        dueFault(5, "A!1>Bw;");
-        dueFault(2, "A?{}{}");
-        dueFault(3, "A?w;");
-        dueFault(5, "A?w{}");
-        dueFault(5, "A?w{}Aw:1;");
-        dueFault(7, "A?w{}{}{}");
-        dueFault(5, "A@w{}{}");
-        dueFault(9, "A@w{Aw:1;");
-        dueFault(4, "A@w{G");
-        dueFault(5, "Aw:1;}");
+        Check.dueFault(0, "");
+        Check.dueFault(0, "a");
+        Check.dueFault(0, "G");
+        Check.dueFault(0, "@");
+        Check.dueFault(0, "{");
+        Check.dueFault(1, "AA");
+        Check.dueFault(1, "A;");
+        Check.dueFault(2, "Aw;");
+        Check.dueFault(2, "A1:2;");
+        Check.dueFault(3, "Aw::1;");
+        Check.dueFault(3, "Aw:+1;");
+        Check.dueFault(3, "Aw:-1;");
+        Check.dueFault(4, "Aw:xy;");
+        Check.dueFault(4, "Aw:x>1;");
+        Check.dueFault(6, "Aw:x+1+1;");
+        Check.dueFault(6, "Aw:1234;");
+        Check.dueFault(8, "Aw:1+1234;");
+        Check.dueFault(3, "A1>A");
+        Check.dueFault(3, "A1>G");
+        Check.dueFault(4, "A1>B;");
+        Check.dueFault(4, "A1>Bv;");
+        Check.dueFault(4, "A1>B{;");
+        Check.dueFault(5, "A1>Bw:");
+        Check.dueFault(2, "A!");
+        Check.dueFault(2, "A!w>B;");
+        Check.dueFault(2, "A!>B;");
+        Check.dueFault(2, "A!:>B;");
+        Check.dueFault(2, "A!/>B;");
+        Check.dueFault(3, "A!12>B;");
+        Check.dueFault(4, "A!1>A;");
+        Check.dueFault(5, "A!1>Bw;");
+        Check.dueFault(2, "A?{}{}");
+        Check.dueFault(3, "A?w;");
+        Check.dueFault(5, "A?w{}");
+        Check.dueFault(5, "A?w{}Aw:1;");
+        Check.dueFault(7, "A?w{}{}{}");
+        Check.dueFault(5, "A@w{}{}");
+        Check.dueFault(9, "A@w{Aw:1;");
+        Check.dueFault(4, "A@w{G");
+        Check.dueFault(5, "Aw:1;}");
     }
 
     private static void promise4FaultAtLimits() {
-        dueFault(PlayCutter.NONE, "Aw:1;".repeat(40));
-        dueFault(200, "Aw:11;".repeat(3) + "Aw:1;".repeat(36) + "Aw");
+        Check.dueFault(PlayCutter.NONE, "Aw:1;".repeat(40));
+        Check.dueFault(200, "Aw:11;".repeat(3) + "Aw:1;".repeat(36) + "Aw");
         String begun = "A@w{".repeat(6) + "Aw:1;".repeat(34);
-        dueFault(194, begun);
-        dueFault(194, begun + "Aw:1;");
-        dueFault(195, begun + "}#");
-        dueFault(PlayCutter.NONE, begun + "}}}}}}");
+        Check.dueFault(194, begun);
+        Check.dueFault(194, begun + "Aw:1;");
+        Check.dueFault(195, begun + "}#");
+        Check.dueFault(PlayCutter.NONE, begun + "}}}}}}");
         String whole = "A@w{".repeat(6) + "Aw:1;".repeat(33) + "}".repeat(6);
-        dueFault(PlayCutter.NONE, whole);
-        dueFault(PlayCutter.NONE, whole + "Aw:1;");
+        Check.dueFault(PlayCutter.NONE, whole);
+        Check.dueFault(PlayCutter.NONE, whole + "Aw:1;");
         String six = "A?w{".repeat(3) + "A@w{".repeat(3);
-        dueFault(24, six);
-        dueFault(25, six + "A");
-        dueFault(25, six + "A?w{}{}");
-        dueFault(25, six + "A@w{}");
-        dueFault(26, six + "Aw");
-        dueFault(PlayCutter.NONE, six + "Aw:1;}}}}{}}{}}{}");
+        Check.dueFault(24, six);
+        Check.dueFault(25, six + "A");
+        Check.dueFault(25, six + "A?w{}{}");
+        Check.dueFault(25, six + "A@w{}");
+        Check.dueFault(26, six + "Aw");
+        Check.dueFault(PlayCutter.NONE, six + "Aw:1;}}}}{}}{}}{}");
         String second = "A?w{}{".repeat(6);
-        dueFault(PlayCutter.NONE, second + "}".repeat(6));
-        dueFault(37, second + "F?");
-        dueFault(39, second + "}A@#");
+        Check.dueFault(PlayCutter.NONE, second + "}".repeat(6));
+        Check.dueFault(37, second + "F?");
+        Check.dueFault(39, second + "}A@#");
     }
 
     private static void dueUnaware(int fault, int who, String text) {

@@ -106,54 +106,46 @@ public final class RunningTest {
         Check.dueThrow("reset without a play", Check.STATE, none::reset);
     }
 
-    private static void dueSteps(PlayCutter x, String parties, String answers) {
-        StringBuilder got = new StringBuilder();
-        for (int i = 0; i < parties.length(); i++) {
-            got.append("WDE".charAt(x.step(parties.charAt(i) - 'A')));
-        }
-        Check.due("steps of " + parties, answers, got.toString());
-    }
-
     private static void promise11StepSetsAndSends() {
         PlayCutter x = Check.loaded("Aw:x+1;Aw>By;Aw:0;Aw>Bz;Bw:y*z;", false);
         x.input(0, 1, 6);
-        dueSteps(x, "BABA", "WDWD");
+        Check.dueSteps(x, "BABA", "WDWD");
         Check.due("A's w", 7, x.variable(0, 0));
         Check.due("queue", "[ 7]", Check.queue(x, 0, 1));
-        dueSteps(x, "AA", "DD");
+        Check.dueSteps(x, "AA", "DD");
         Check.due("queue", "[ 7 0]", Check.queue(x, 0, 1));
-        dueSteps(x, "ABAB", "EDED");
+        Check.dueSteps(x, "ABAB", "EDED");
         Check.due("B's y", 7, x.variable(1, 2));
         Check.due("queue", "[]", Check.queue(x, 0, 1));
-        dueSteps(x, "BBC", "DEE");
+        Check.dueSteps(x, "BBC", "DEE");
         Check.due("B's w", 0, x.variable(1, 0));
         PlayCutter values = Check.loaded("Aw:w/x;Aw:w%x;Ay:w-1;Ay:y<z;Az:000=0;Aw:12/5;Ax:y*0;Aw:w+999;", false);
         values.input(0, 0, Integer.MIN_VALUE);
         values.input(0, 1, -1);
-        dueSteps(values, "A", "D");
+        Check.dueSteps(values, "A", "D");
         Check.due("it wraps", Integer.MIN_VALUE, values.variable(0, 0));
-        dueSteps(values, "AAA", "DDD");
+        Check.dueSteps(values, "AAA", "DDD");
         Check.due("-1 < 0", 1, values.variable(0, 2));
-        dueSteps(values, "AAA", "DDD");
+        Check.dueSteps(values, "AAA", "DDD");
         Check.due("000 = 0", 1, values.variable(0, 3));
         Check.due("12 / 5", 2, values.variable(0, 0));
-        dueSteps(values, "AA", "DE");
+        Check.dueSteps(values, "AA", "DE");
         Check.due("2 + 999", 1001, values.variable(0, 0));
     }
 
     private static void promise11StepTellsAndChooses() {
         PlayCutter x = Check.loaded("A?w{A!3>B;Bx:1;}{A!8>B;Bx:2;}Ay:5;By:5;", false);
         x.input(0, 0, -1);
-        dueSteps(x, "BABA", "WDWD");
+        Check.dueSteps(x, "BABA", "WDWD");
         Check.due("the label", "[!3]", Check.queue(x, 0, 1));
         Check.due("behind the choice", 1, x.at(0));
-        dueSteps(x, "BBB", "DDD");
+        Check.dueSteps(x, "BBB", "DDD");
         Check.due("by label 3", 1, x.variable(1, 1));
         Check.due("and behind", 5, x.variable(1, 2));
-        dueSteps(x, "BAA", "EDE");
+        Check.dueSteps(x, "BAA", "EDE");
         x.reset();
         x.input(0, 0, 0);
-        dueSteps(x, "AABBB", "DDDDD");
+        Check.dueSteps(x, "AABBB", "DDDDD");
         Check.due("by label 8", 2, x.variable(1, 1));
         Check.due("and behind", 5, x.variable(1, 2));
     }
@@ -161,20 +153,20 @@ public final class RunningTest {
     private static void promise11StepGoesRound() {
         PlayCutter x = Check.loaded("C@w{Ax:x+1;Cw:w-1;By:y+2;}Cz:9;Bz:9;", false);
         x.input(2, 0, 1);
-        dueSteps(x, "ABC", "WWD");
+        Check.dueSteps(x, "ABC", "WWD");
         Check.due("E is asked, nobody told", 0, x.queue(2, 0) + x.queue(2, 1));
         Check.due("still at ROUND", 7, x.at(2));
-        dueSteps(x, "C", "D");
+        Check.dueSteps(x, "C", "D");
         Check.due("A is told first", "[!1]", Check.queue(x, 2, 0));
         Check.due("B is not yet", "[]", Check.queue(x, 2, 1));
-        dueSteps(x, "CCAABB", "DDDDDD");
+        Check.dueSteps(x, "CCAABB", "DDDDDD");
         Check.due("A is at FOLLOW again", 8, x.at(0));
         Check.due("C is at ROUND again", 7, x.at(2));
-        dueSteps(x, "CCC", "DDD");
+        Check.dueSteps(x, "CCC", "DDD");
         Check.due("A's label 0", "[!0]", Check.queue(x, 2, 0));
         Check.due("B's label 0", "[!0]", Check.queue(x, 2, 1));
         Check.due("C is behind", 1, x.at(2));
-        dueSteps(x, "ABBCABC", "DDDDEEE");
+        Check.dueSteps(x, "ABBCABC", "DDDDEEE");
         Check.due("A's x", 1, x.variable(0, 1));
         Check.due("B's y", 2, x.variable(1, 2));
         Check.due("B's z", 9, x.variable(1, 3));
@@ -183,17 +175,17 @@ public final class RunningTest {
 
     private static void promise11StepWithEmptyParts() {
         PlayCutter x = Check.loaded("A@w{}A?w{}{Aw:7;}A!1>B;", false);
-        dueSteps(x, "AAA", "DDD");
+        Check.dueSteps(x, "AAA", "DDD");
         Check.due("behind the choice", 4, x.at(0));
         Check.due("S was done", 7, x.variable(0, 0));
-        dueSteps(x, "ABBA", "DDEE");
+        Check.dueSteps(x, "ABBA", "DDEE");
         x.reset();
         x.input(0, 0, 1);
-        dueSteps(x, "AAAA", "DDDD");
+        Check.dueSteps(x, "AAAA", "DDDD");
         Check.due("for ever at ROUND", 7, x.at(0));
         PlayCutter inner = Check.loaded("A@w{A?x{A!1>B;}{A!2>B;}}By:1;", false);
         inner.input(0, 0, 1);
-        dueSteps(inner, "AAAABB", "DDDDDD");
+        Check.dueSteps(inner, "AAAABB", "DDDDDD");
         Check.due("from the end of HEAR to FOLLOW", 8, inner.at(1));
         Check.due("from the end of CHOOSE to ROUND", 7, inner.at(0));
     }
@@ -202,13 +194,13 @@ public final class RunningTest {
         PlayCutter x = Check.loaded("A5>Bx;A@w{By:1;Cy:1;}", false);
         x.room(1);
         x.input(0, 0, 1);
-        dueSteps(x, "AAAA", "DDWW");
+        Check.dueSteps(x, "AAAA", "DDWW");
         Check.due("B's queue is full, and C waits for its turn", "[ 5][]", Check.queue(x, 0, 1) + Check.queue(x, 0, 2));
-        dueSteps(x, "BA", "DD");
+        Check.dueSteps(x, "BA", "DD");
         Check.due("B is told, without asking again", "[!1][]", Check.queue(x, 0, 1) + Check.queue(x, 0, 2));
-        dueSteps(x, "AAA", "DDW");
+        Check.dueSteps(x, "AAA", "DDW");
         Check.due("C is told, and E asked again", "[!1][!1]", Check.queue(x, 0, 1) + Check.queue(x, 0, 2));
-        dueSteps(x, "BAAACAA", "DDWWDDD");
+        Check.dueSteps(x, "BAAACAA", "DDWWDDD");
         Check.due("B and C are told again", "[!1][!1]", Check.queue(x, 0, 1) + Check.queue(x, 0, 2));
     }
 
@@ -247,15 +239,15 @@ public final class RunningTest {
         Check.due("HEAR", 5, x.at(2));
         Check.due("FOLLOW", 8, x.at(3));
         Check.due("none", 0, x.at(4));
-        dueSteps(x, "A", "D");
+        Check.dueSteps(x, "A", "D");
         Check.due("SEND", 2, x.at(0));
-        dueSteps(x, "A", "D");
+        Check.dueSteps(x, "A", "D");
         Check.due("TELL", 4, x.at(0));
-        dueSteps(x, "A", "D");
+        Check.dueSteps(x, "A", "D");
         Check.due("CHOOSE", 6, x.at(0));
-        dueSteps(x, "A", "D");
+        Check.dueSteps(x, "A", "D");
         Check.due("ROUND", 7, x.at(0));
-        dueSteps(x, "AA", "DD");
+        Check.dueSteps(x, "AA", "DD");
         Check.due("ended", 0, x.at(0));
         PlayCutter none = new PlayCutter();
         for (int p : NO_PARTIES) {
