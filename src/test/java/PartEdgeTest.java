@@ -117,7 +117,7 @@ public final class PartEdgeTest {
         dueAware(s, r, false);
     }
 
-    /** A says first, to all but B, which way it is, so that no other party can be unaware. */
+    /** A first tells C and D which way it is, so that none but B can be unaware. */
     private static void dueAware(String r, String s, boolean isAware) {
         String play = "A?w{A!1>C;A!1>D;" + r + "}{A!0>C;A!0>D;" + s + "}";
         if (isAware) {

@@ -268,6 +268,25 @@ public final class ReadingEdgeTest {
         Check.dueFault(200, SET.repeat(39) + "A?w{}");
         Check.dueFault(199, SET.repeat(39) + "A?w{#");
         Check.dueFault(200, SET.repeat(38) + "A@999-999{");
+        for (String s : new String[] {"Az:999-999;", "Aw>Bx;", "A999<999>Bx;", "A!9>B;", "A?w{A?w{}{}}{}", "A@w{Bw:1;}"}) {
+            for (int i = 1; i < s.length(); i++) {
+                Check.dueFault(200, sets(200 - i) + s.substring(0, i));
+                Check.dueFault(199, sets(199 - i) + s.substring(0, i));
+                Check.dueFault(199, sets(199 - i) + s.substring(0, i) + "#");
+            }
+        }
+    }
+
+    /** So many letters of whole sets, which are as few as can be, so that statements are left to come. */
+    private static String sets(int letters) {
+        String[] bySurplus = {"Aw:1;", "Aw:11;", "Aw:111;", "Aw:11+1;", "Aw:11+11;", "Aw:111+11;", "Aw:111+111;"};
+        StringBuilder all = new StringBuilder();
+        while (all.length() < letters) {
+            int left = letters - all.length();
+            int next = left <= 11 ? left : Math.min(11, left - 5);
+            all.append(bySurplus[next - 5]);
+        }
+        return all.toString();
     }
 
     /** Promise 1: "No play, an empty text." */

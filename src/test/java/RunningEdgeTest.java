@@ -301,6 +301,7 @@ public final class RunningEdgeTest {
             x.input(0, 0, 2);
             x.input(1, 3, -5);
             x.room(1);
+            x.whole(3);
             String before = Check.state(x);
             x.run(0, turns);
             x.reset();
@@ -308,7 +309,9 @@ public final class RunningEdgeTest {
             Check.due("no step was made", 2, x.input(0, 0, 2));
             // Behind reset all goes as at first; a round half told is not gone on with.
             Check.dueSteps(x, "BCAAABA", "WWDDDDD");
-            Check.due("room stays", "[ 7]", Check.queue(x, 0, 1));
+            Check.due("sent again", "[ 7]", Check.queue(x, 0, 1));
+            Check.dueSteps(x, "AAA", "DDW");
+            Check.due("room stays 1", "[ 7]", Check.queue(x, 0, 1));
         }
     }
 
