@@ -108,10 +108,11 @@ final class Check {
         due("steps of " + parties, answers, got.toString());
     }
 
-    /** Asks for the whole text of a part, by length() and letter(). */
+    /** Asks for the whole text of a part: length() once, as an object has but 512 calls. */
     static String part(PlayCutter x, int party) {
         StringBuilder all = new StringBuilder();
-        for (int i = 0; i < x.length(party); i++) {
+        int length = x.length(party);
+        for (int i = 0; i < length; i++) {
             all.append((char) x.letter(party, i));
         }
         return all.toString();
